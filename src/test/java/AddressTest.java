@@ -188,6 +188,10 @@ public final class AddressTest {
         for (String open : new String[] {"\"", "(", "((", "<", "\"\\", "(\\", "<x@y> "}) {
             HeaderDesk desk = Check.deskOf("a:" + open + "\r\nb:c@d, e@f\r\n");
             Check.due("behind " + open, Check.addressesOf(desk, 1), "c@d e@f");
+            desk = Check.deskOf("a:" + open + "\r\nb:() c@d, e@f\r\n");
+            Check.due("brackets behind " + open, Check.addressesOf(desk, 1), "c@d e@f");
+            desk = Check.deskOf("a:" + open + "\r\nb:\"\" <c@d>, e@f\r\n");
+            Check.due("quotes behind " + open, Check.addressesOf(desk, 1), "c@d e@f");
         }
     }
 

@@ -26,7 +26,7 @@ public final class ModelTest {
     public static void main(String[] args) {
         HeaderDesk desk = new HeaderDesk();
         for (int turn = 0; turn < 60000 && !Check.hasWrong(); turn++) {
-            // An object is good for 512 calls alone; half of the messages come to one that has read another.
+            // Every second message comes to an object that has read one, of which nothing may be left.
             if (turn % 2 == 0) {
                 desk = new HeaderDesk();
             }
