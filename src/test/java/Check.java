@@ -1,16 +1,25 @@
 import java.nio.charset.StandardCharsets;
 
-/** What the tests share: texts put into a desk and read out of it, and the answers that are not as due. */
+/**
+ * What the tests share: texts put into a desk and read out of it, and the answers that are not as due. It makes few
+ * calls, for the document leaves free what an object answers after 512 of them.
+ */
 final class Check {
     private static int wrong = 0;
+    private static String sentence = "";
 
     private Check() {
+    }
+
+    /** The sentence of the document that the next calls are about; it is told with each wrong answer. */
+    static void of(String words) {
+        sentence = "[" + words + "] ";
     }
 
     static void due(String call, long got, long want) {
         if (got != want) {
             wrong++;
-            System.out.println(call + " answered " + got + ", due is " + want);
+            System.out.println(sentence + call + " answered " + got + ", due is " + want);
         }
     }
 
@@ -21,7 +30,7 @@ final class Check {
     static void due(String call, String got, String want) {
         if (!got.equals(want)) {
             wrong++;
-            System.out.println(call + " answered [" + shown(got) + "], due is [" + shown(want) + "]");
+            System.out.println(sentence + call + " answered [" + shown(got) + "], due is [" + shown(want) + "]");
         }
     }
 
@@ -73,24 +82,27 @@ final class Check {
 
     static String nameOf(HeaderDesk desk, int i) {
         StringBuilder out = new StringBuilder();
-        for (int k = 0; k < desk.field(i, 0); k += 8) {
-            spread(out, desk.bytes(i, 0, k), desk.field(i, 0) - k);
+        int length = desk.field(i, 0);
+        for (int k = 0; k < length; k += 8) {
+            spread(out, desk.bytes(i, 0, k), length - k);
         }
         return out.toString();
     }
 
     static String valueOf(HeaderDesk desk, int i) {
         StringBuilder out = new StringBuilder();
-        for (int k = 0; k < desk.field(i, 1); k += 8) {
-            spread(out, desk.bytes(i, 1, k), desk.field(i, 1) - k);
+        int length = desk.field(i, 1);
+        for (int k = 0; k < length; k += 8) {
+            spread(out, desk.bytes(i, 1, k), length - k);
         }
         return out.toString();
     }
 
     static String addressOf(HeaderDesk desk, int i, int j) {
         StringBuilder out = new StringBuilder();
-        for (int k = 0; k < desk.part(i, j, 0); k += 8) {
-            spread(out, desk.address(i, j, k), desk.part(i, j, 0) - k);
+        int length = desk.part(i, j, 0);
+        for (int k = 0; k < length; k += 8) {
+            spread(out, desk.address(i, j, k), length - k);
         }
         return out.toString();
     }
@@ -98,7 +110,8 @@ final class Check {
     /** All addresses of field i, with a blank between them (none has one in it). */
     static String addressesOf(HeaderDesk desk, int i) {
         StringBuilder out = new StringBuilder();
-        for (int j = 0; j < desk.field(i, 2); j++) {
+        int amount = desk.field(i, 2);
+        for (int j = 0; j < amount; j++) {
             out.append(j == 0 ? "" : " ").append(addressOf(desk, i, j));
         }
         return out.toString();

@@ -4,8 +4,8 @@ public final class FindTest {
         HeaderDesk desk = Check.deskOf("To:1\r\nSubject:2\r\ntO :3\r\nT:4\r\nTo1:5\r\nTO:6\r\nsubject:7");
         int[][] due = {
             {0, 0, 0}, {1, 0, 2}, {2, 0, 2}, {3, 0, 5}, {5, 0, 5}, {6, 0, -1}, {7, 0, -1}, {100, 0, -1},
-            {0, 5, 0}, {1, 5, 2}, {3, 2, 5}, {0, 1, 1}, {2, 1, 6}, {0, 6, 1}, {0, 3, 3}, {4, 3, -1}, {0, 4, 4}, {5, 4, -1},
-            {-1, 0, 0}, {-5, 6, 1}, {Integer.MIN_VALUE, 4, 4}, {Integer.MAX_VALUE, 0, -1},
+            {0, 5, 0}, {1, 5, 2}, {3, 2, 5}, {0, 1, 1}, {2, 1, 6}, {0, 6, 1}, {0, 3, 3}, {4, 3, -1}, {0, 4, 4},
+            {5, 4, -1}, {-1, 0, 0}, {-5, 6, 1}, {Integer.MIN_VALUE, 4, 4}, {Integer.MAX_VALUE, 0, -1},
             {0, 7, -1}, {0, -1, -1}, {0, 100, -1}, {0, Integer.MAX_VALUE, -1}, {0, Integer.MIN_VALUE, -1},
             {7, 7, -1}, {-1, -1, -1}};
         for (int[] row : due) {

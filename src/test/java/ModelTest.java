@@ -24,12 +24,9 @@ public final class ModelTest {
     }
 
     public static void main(String[] args) {
-        HeaderDesk desk = new HeaderDesk();
         for (int turn = 0; turn < 60000 && !Check.hasWrong(); turn++) {
             // Every second message comes to an object that has read one, of which nothing may be left.
-            if (turn % 2 == 0) {
-                desk = new HeaderDesk();
-            }
+            HeaderDesk desk = turn % 2 == 0 ? new HeaderDesk() : Check.deskOf(made());
             String message = made();
             Check.put(desk, message);
             compare(desk, message);
