@@ -15,6 +15,7 @@ public final class MessageEdgesTest {
         fullMessageIsRead();
         emptyMessageIsRead();
         emptyAfterRead();
+        fullMessageAfterFullMessage();
         nothingIsLeftOfAnEarlierMessage();
         lineEndsWith13And10();
         lineEndsAtTheMessagesEnd();
@@ -186,6 +187,26 @@ public final class MessageEdgesTest {
             Check.due("read()", desk.read(), 1);
             Check.due("name", Check.nameOf(desk, 0), "cd");
             Check.due("field(0, 1)", desk.field(0, 1), 297);
+        }
+    }
+
+    private static void fullMessageAfterFullMessage() {
+        Check.of("and empty then: as often as a message is read");
+        String address = "l".repeat(40) + "@" + "d".repeat(60);
+        String names = ("n".repeat(60) + ":\r\n").repeat(4) + "n".repeat(47) + ":";
+        String addresses = "a:" + address + "," + address + "," + "l".repeat(34) + "@" + "d".repeat(59);
+        HeaderDesk desk = new HeaderDesk();
+        for (int turn = 0; turn < 2; turn++) {
+            Check.put(desk, "a:" + "v".repeat(298));
+            Check.due("read() of turn " + turn, desk.read(), 1);
+            Check.due("value of turn " + turn, Check.valueOf(desk, 0), "v".repeat(298));
+            Check.put(desk, names);
+            Check.due("read() of names, turn " + turn, desk.read(), 5);
+            Check.due("last name of turn " + turn, Check.nameOf(desk, 4), "n".repeat(47));
+            Check.put(desk, addresses);
+            Check.due("read() of addresses, turn " + turn, desk.read(), 1);
+            Check.due("addresses of turn " + turn, desk.count(3), 3);
+            Check.due("last address of turn " + turn, Check.addressOf(desk, 0, 2), addresses.substring(206));
         }
     }
 
