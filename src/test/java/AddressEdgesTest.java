@@ -112,6 +112,8 @@ public final class AddressEdgesTest {
         Check.of("(but not within .. brackets ( )");
         has("(,)a@b", "a@b");
         has("a@b(,c@d,)", "a@b");
+        has("a(,)@b", "a@b");
+        has("a@(,c@d,)b,e@f", "a@b e@f");
         has("()a@b", "a@b");
         has("a()@()b", "a@b");
         has("a@b(),c@d()", "a@b c@d");
@@ -208,6 +210,10 @@ public final class AddressEdgesTest {
         has("x><a@b>", "a@b");
         has("<<a@b>", "");
         has("<<a@b>>", "");
+        has("<a<@b>", "");
+        has("<a@<b>", "");
+        has("<a@b<>", "");
+        has("<a@b<c>,d@e", "d@e");
         has("<a@b>>", "a@b");
         has("<a@b><c@d>", "a@b");
         has("<x><a@b>", "");
@@ -235,6 +241,9 @@ public final class AddressEdgesTest {
         has("x a@b", "xa@b");
         has("a@b x", "a@bx");
         has("a@b>", "");
+        has(">a@b", "");
+        has("a>@b", "");
+        has("a@>b", "");
         has("(<)a@b(>)", "a@b");
         has("\"\"a@b", "");
         has("a@b\"\"", "");

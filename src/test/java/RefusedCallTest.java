@@ -19,6 +19,7 @@ public final class RefusedCallTest {
         refusedForWantOfRoom();
         callsThatOnlyAsk();
         memoryIsEachObjectsOwn();
+        twoObjectsHaveNothingInCommon();
         upTo512Calls();
         Check.end();
     }
@@ -142,6 +143,44 @@ public final class RefusedCallTest {
         for (int d = 0; d < STATES.length; d++) {
             Check.due("what is seen of object " + d, seen(desks.get(d)), seen(deskIn(STATES[d])));
         }
+    }
+
+    private static void twoObjectsHaveNothingInCommon() {
+        Check.of("All memory is the class's own.");
+        String[] messages = {"To:one@here.org,x\r\nCc: two@there\r\nto:v",
+            "X-Y :a@b,c.d.e@f, g@h\r\nx-y:\r\nB:i@jj\r\n"};
+        for (int last = 0; last < 2; last++) {
+            HeaderDesk first = Check.deskOf(messages[1 - last]);
+            Check.put(first, "p:q@r");
+            String before = questions(first);
+            // All that the other object does from its making on comes between two equal questions to the first one.
+            HeaderDesk second = Check.deskOf(messages[last]);
+            Check.put(second, "longer:stuv@wxyz");
+            Check.due("the first object beside a second one", questions(first), before);
+            second.read();
+            Check.due("the first object beside one that has read again", questions(first), before);
+            Check.due("read() of the first object", first.read(), 1);
+            Check.due("name", Check.nameOf(first, 0), "p");
+            Check.due("value", Check.valueOf(first, 0), "q@r");
+            Check.due("name of the second object", Check.nameOf(second, 0), "longer");
+            Check.due("part(0, 0, 1) of the second object", second.part(0, 0, 1), 4);
+            Check.due("part(0, 0, 1) of the first object", first.part(0, 0, 1), 1);
+        }
+    }
+
+    private static String questions(HeaderDesk desk) {
+        StringBuilder out = new StringBuilder();
+        for (int what = 0; what <= 3; what++) {
+            out.append(desk.count(what)).append(' ');
+        }
+        for (int i = 0; i < 3; i++) {
+            out.append(Check.nameOf(desk, i)).append('|').append(Check.valueOf(desk, i)).append('|');
+            out.append(desk.find(1, i)).append('|');
+            for (int j = 0; j < 3; j++) {
+                out.append(Check.addressOf(desk, i, j)).append(' ').append(desk.part(i, j, 1)).append(' ');
+            }
+        }
+        return out.toString();
     }
 
     private static void upTo512Calls() {
